@@ -8,6 +8,7 @@ public final class PlanTest {
         refusals();
         firstOfSeveral();
         moveOrStay();
+        lastPosition();
         whatEndsAPlan();
         whatLeavesAPlan();
         everyPlan();
@@ -78,6 +79,19 @@ public final class PlanTest {
         check.due("plan() that moves for nothing", x.plan(), 14);
         check.due("then 10 is the first without REACH", x.planned(1, 0), 10);
         check.due("ties() for 10, 11 and 12", x.ties(), 3);
+    }
+
+    private static void lastPosition() {
+        FretHands x = Check.withStrings(40, 45);
+        x.neck(24);
+        x.capo(23);
+        Check.chord(x, 64, 68);
+        Check.chord(x, 69);
+        check.due("plan() with one position", x.plan(), 1 + 1 + 1);
+        check.due("it is NECK", x.planned(0, 0), 24);
+        check.due("also at event 1", x.planned(1, 0), 24);
+        check.due("string of its second pitch", x.planned(0, 2), 1);
+        check.due("ties()", x.ties(), 1);
     }
 
     private static FretHands planned() {

@@ -210,14 +210,19 @@ public final class SlowHandsTest {
     /** Mostly a tab that can be read, else one with a number or a sign that is not in its place. */
     private String makeTab() {
         int m = slow.strings.size();
-        int width = random.nextInt(4) == 0 ? 82 + random.nextInt(8) : random.nextInt(12);
+        // Wide tabs have a number in nearly every second column, and so about forty events.
+        boolean wide = random.nextInt(4) == 0;
+        int width = wide ? 80 + random.nextInt(8) : random.nextInt(12);
         int room = Math.max(1, slow.neck - slow.capo + (random.nextInt(3) == 0 ? 2 : 1));
-        int density = 2 + random.nextInt(8);
+        if (wide) {
+            room = Math.min(room, 10);
+        }
+        int density = wide ? 1 + random.nextInt(2) : 2 + random.nextInt(8);
         char[][] rows = new char[m][width];
         for (char[] row : rows) {
             java.util.Arrays.fill(row, '-');
         }
-        for (int c = random.nextInt(2); c < width; c += random.nextInt(5) == 0 ? 1 : 2 + random.nextInt(2)) {
+        for (int c = random.nextInt(2); c < width; c += wide ? 2 : 1 + random.nextInt(3)) {
             for (int s = 0; s < m; s++) {
                 if (random.nextInt(density) == 0) {
                     char[] digits = Integer.toString(random.nextInt(room)).toCharArray();

@@ -113,6 +113,12 @@ public final class TabTest {
         dueEvents(x, "|-7-|\n|-0-|\n", 1);
         check.due("at(0, 0) with CAPO", x.at(0, 0), 45);
         check.due("at(0, 1) with CAPO", x.at(0, 1), 57);
+        FretHands z = Check.withStrings(40, 41, 42, 43, 44, 45, 46);
+        dueEvents(z, "|1---|\n|---1|\n|1-1-|\n|---2|\n|--1-|\n|1--3|\n|--1-|\n", 3);
+        check.due("seven strings: at(0, 0)", z.at(0, 0), 42);
+        check.due("seven strings: bound(0, 2)", z.bound(0, 2), 6);
+        check.due("seven strings: at(1, 0)", z.at(1, 0), 41);
+        check.due("seven strings: at(2, 2)", z.at(2, 2), 46);
         FretHands y = Check.withStrings(99);
         y.neck(24);
         dueEvents(y, "|24|\n", 1);
