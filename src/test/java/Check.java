@@ -4,13 +4,19 @@ final class Check {
 
     private int wrong = 0;
     private int asked = 0;
+    private String sentence = "";
+
+    /** The sentence of the document that the next answers are about: told with each wrong one. */
+    void sentence(String text) {
+        sentence = "[" + text + "] ";
+    }
 
     void due(String call, long got, long want) {
         asked++;
         if (got != want) {
             wrong++;
             if (wrong <= MOST_SHOWN) {
-                System.out.println(call + " answered " + got + ", due is " + want);
+                System.out.println(sentence + call + " answered " + got + ", due is " + want);
             }
         }
     }
@@ -19,7 +25,7 @@ final class Check {
         asked++;
         if (!got.equals(want)) {
             wrong++;
-            System.out.println(what + " is\n" + got + "\ndue is\n" + want);
+            System.out.println(sentence + what + " is\n" + got + "\ndue is\n" + want);
         }
     }
 
@@ -53,6 +59,12 @@ final class Check {
             x.pitch(pitches[i]);
         }
         return number;
+    }
+
+    static void events(FretHands x, int count, int pitch) {
+        for (int i = 0; i < count; i++) {
+            x.event(pitch);
+        }
     }
 
     static void type(FretHands x, String text) {

