@@ -290,6 +290,8 @@ public final class GripEdgeTest {
             Check.chord(x, 48, 58, 60, 75);
             dueGrip(x, 2, 0, 5, 0, 1, 2, 3, 8 + 8 + 1 + 5 + 2 * reach);
             check.due("two at p + 3, one OPEN, one at p: no other", x.grips(2), 1);
+            check.due("four at p + 3 again", x.grip(1, 0, 5), 32 + 4 * reach);
+            check.due("one at p + 3, asked behind the four", x.grip(0, 0, 5), 8 + reach);
         }
         FretHands y = onNeck(12, 9, 40, 50);
         y.weight(REACH, 20);

@@ -98,12 +98,14 @@ public final class WriteEdgeTest {
         check.sentence("Terms: how many FRETS behind CAPO");
         int[][] ends = {{0, 0}, {0, 10}, {1, 1}, {1, 10}, {1, 11}, {5, 5}, {5, 14}, {5, 15}, {23, 23}, {23, 24}};
         for (int[] end : ends) {
-            FretHands x = Check.withStrings(40);
+            FretHands x = Check.withStrings(0, 40, 80);
             x.neck(24);
             x.capo(end[0]);
             x.event(40 + end[1]);
             x.plan();
-            dueTab(x, "|-" + (end[1] - end[0]) + "-|\n");
+            String number = "" + (end[1] - end[0]);
+            String bare = "|-" + "-".repeat(number.length()) + "-|\n";
+            dueTab(x, bare + "|-" + number + "-|\n" + bare);
         }
     }
 
