@@ -3,32 +3,69 @@ import java.util.Random;
 /** Long runs of calls, ordinary and wild ones, against the document written once more. */
 public final class SlowHandsTest {
     private static final Check check = new Check();
-    private static final int RUNS = 1500;
+    private static final int RUNS = 4000;
     private static final int CALLS = 512;
+    private static final long SEED_STEP = 0x9E3779B97F4A7C15L;
+    private static final int LEAST_MET = 30;
     private static final int[] EDGES = {Integer.MIN_VALUE, -3, -2, -1, 0, 1, 2, 6, 7, 12, 24, 25, 40, 99, 124, Integer.MAX_VALUE};
+
+    // How often runs began with so many strings, and how often read() answered each fault or none.
+    private static final int[] stringsMet = new int[8];
+    private static final int[] faultsMet = new int[6];
+    private static int plansMet = 0;
+    private static int longPlansMet = 0;
+    private static int plansMissed = 0;
+    // Of plans: one alone is best, or several, or so many that ties() counts no further.
+    private static final int[] tiesMet = new int[3];
 
     private final Random random;
     private final FretHands fast = new FretHands();
     private final SlowHands slow = new SlowHands();
     private final String run;
     private final boolean wild;
+    private final boolean playable;
     private int calls = 0;
 
     private SlowHandsTest(int run) {
         this.run = "run " + run;
-        this.random = new Random(run);
+        // Small seeds in a row begin with nearly the same numbers, and so with as many strings.
+        this.random = new Random(run * SEED_STEP);
         this.wild = run % 3 == 0;
+        this.playable = run % 3 == 1;
     }
 
     public static void main(String[] args) {
         for (int run = 0; run < RUNS && !check.isWrong(); run++) {
             SlowHandsTest test = new SlowHandsTest(run);
             test.tuneUp();
+            stringsMet[test.slow.strings.size()]++;
             while (test.calls < CALLS && !check.isWrong()) {
                 test.step();
             }
         }
+        metAll();
         check.end("SlowHandsTest");
+    }
+
+    /** Runs that agree say little about what they never came to. */
+    private static void metAll() {
+        for (int s = 0; s < stringsMet.length; s++) {
+            metOften("runs with " + s + " strings", stringsMet[s]);
+        }
+        for (int f = 0; f < faultsMet.length; f++) {
+            metOften("tabs with fault " + f, faultsMet[f]);
+        }
+        metOften("plans", plansMet);
+        metOften("plans of ten events and more", longPlansMet);
+        metOften("plans that are alone", tiesMet[0]);
+        metOften("plans of some", tiesMet[1]);
+        metOften("plans of 999999 and more", tiesMet[2]);
+        metOften("tunes without a plan", plansMissed);
+    }
+
+    private static void metOften(String what, int often) {
+        System.out.println("  " + what + ": " + often);
+        check.due(what + ", fewer than " + LEAST_MET, often < LEAST_MET ? often : LEAST_MET, LEAST_MET);
     }
 
     private void due(String call, int got, int want) {
@@ -72,7 +109,8 @@ public final class SlowHandsTest {
 
     private void change() {
         int a = some(0, 24);
-        int b = some(0, 20);
+        // Weights of 0 make many plans alike.
+        int b = random.nextInt(2) == 0 ? 0 : some(0, 20);
         switch (random.nextInt(6)) {
             case 0:
                 due("neck(" + a + ")", fast.neck(a), slow.neck(a));
@@ -111,6 +149,17 @@ public final class SlowHandsTest {
             default:
                 due("drop()", fast.drop(), slow.drop());
         }
+        if (playable) {
+            keepPlayable();
+        }
+    }
+
+    /** One event without a grip leaves the whole tune without a plan: such runs let it go. */
+    private void keepPlayable() {
+        int last = slow.events.size() - 1;
+        if (last >= 0 && slow.grips(last) == 0) {
+            due("drop()", fast.drop(), slow.drop());
+        }
     }
 
     private void bindOne() {
@@ -121,6 +170,9 @@ public final class SlowHandsTest {
             string = -1;
         }
         due("bind(" + event + ", " + i + ", " + string + ")", fast.bind(event, i, string), slow.bind(event, i, string));
+        if (playable && slow.grips(event) == 0) {
+            due("bind(" + event + ", " + i + ", -1)", fast.bind(event, i, -1), slow.bind(event, i, -1));
+        }
     }
 
     private void ask() {
@@ -159,7 +211,7 @@ public final class SlowHandsTest {
         int what = some(0, 6);
         switch (random.nextInt(6)) {
             case 0:
-                due("plan()", fast.plan(), slow.plan());
+                plan();
                 break;
             case 1:
                 due("ties()", fast.ties(), slow.ties());
@@ -169,10 +221,23 @@ public final class SlowHandsTest {
         }
     }
 
+    private void plan() {
+        int due = slow.plan();
+        due("plan()", fast.plan(), due);
+        if (due >= 0) {
+            plansMet++;
+            longPlansMet += slow.events.size() >= 10 ? 1 : 0;
+            int ties = slow.ties();
+            tiesMet[ties == 1 ? 0 : ties < 999999 ? 1 : 2]++;
+        } else if (due == -1) {
+            plansMissed++;
+        }
+    }
+
     private void tab() {
         switch (random.nextInt(5)) {
             case 0:
-                due("plan()", fast.plan(), slow.plan());
+                plan();
                 due("write()", fast.write(), slow.write());
                 check.due(run + ": the tape", Check.tape(fast), slow.tape);
                 break;
@@ -196,7 +261,11 @@ public final class SlowHandsTest {
                 due("sign(" + (int) text.charAt(i) + ")", fast.sign(text.charAt(i)), slow.sign(text.charAt(i)));
             }
         }
-        due("read() of " + text, fast.read(), slow.read());
+        int due = slow.read();
+        due("read() of " + text, fast.read(), due);
+        if (due != -4) {
+            faultsMet[due < 0 ? -10 - due : 0]++;
+        }
         due("place()", fast.place(), slow.place());
         due("told(3)", fast.told(3), slow.told(3));
         for (int e = 0; e < slow.events.size(); e++) {
